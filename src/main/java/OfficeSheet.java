@@ -40,9 +40,8 @@ public final class OfficeSheet {
     private static final int TAKEN = 1;
     private static final int WAITS = 2;
 
-    private final StringBuilder draft = new StringBuilder();
     private final Office[] offices = new Office[OFFICES];
-    private final Reader reader = new Reader(draft);
+    private final Reader reader = new Reader();
     private final Calculator calculator = new Calculator();
     private final Writer writer = new Writer();
 
@@ -56,18 +55,18 @@ public final class OfficeSheet {
         if (c < FIRST_CHARACTER || c > LAST_CHARACTER) {
             throw new IllegalArgumentException("no character of a text");
         }
-        if (draft.length() >= TEXT_LENGTH) {
+        if (reader.draft.length() >= TEXT_LENGTH) {
             throw new IllegalStateException("the draft is full");
         }
-        draft.append(c);
-        return draft.length();
+        reader.draft.append(c);
+        return reader.draft.length();
     }
 
     public void cut(int n) throws IllegalArgumentException {
-        if (n < 0 || n > draft.length()) {
+        if (n < 0 || n > reader.draft.length()) {
             throw new IllegalArgumentException("the draft has not so many characters");
         }
-        draft.setLength(n);
+        reader.draft.setLength(n);
     }
 
     public int put(int office, int kind, int after)
@@ -673,10 +672,10 @@ public final class OfficeSheet {
         }
     }
 
-    /** Reads the draft token by token; behind the first fault nothing that it answers counts. */
+    /** Has the draft, and reads it token by token; behind the first fault nothing that it answers counts. */
     private static final class Reader {
-        private final StringBuilder text;
-        // Where each token starts; each goes to the start of the next, and the last to the text's end.
+        private final StringBuilder draft = new StringBuilder();
+        // Where each token starts; each goes to the start of the next, and the last to the draft's end.
         private final int[] starts = new int[TEXT_LENGTH + 2];
         private int tokens = 0;
         private int token = 0;
@@ -684,11 +683,7 @@ public final class OfficeSheet {
         private Axis rows;
         private Axis columns;
 
-        Reader(StringBuilder text) {
-            this.text = text;
-        }
-
-        /** The content that the text tells (null for nothing), if fault is NONE then. */
+        /** The content that the draft tells (null for nothing), if fault is NONE then. */
         Part read(Axis shownRows, Axis shownColumns) {
             rows = shownRows;
             columns = shownColumns;
@@ -714,22 +709,22 @@ public final class OfficeSheet {
         private void split() {
             tokens = 0;
             int at = 0;
-            for (int n = 0; n < TEXT_LENGTH && at < text.length(); n++) {
+            for (int n = 0; n < TEXT_LENGTH && at < draft.length(); n++) {
                 starts[tokens] = at;
                 tokens++;
                 at = endOfToken(at);
             }
-            starts[tokens] = text.length();
+            starts[tokens] = draft.length();
         }
 
         private int endOfToken(int from) {
             int end = from + 1;
-            if (isOfNumber(text.charAt(from))) {
-                while (end < text.length() && isOfNumber(text.charAt(end))) {
+            if (isOfNumber(draft.charAt(from))) {
+                while (end < draft.length() && isOfNumber(draft.charAt(end))) {
                     end++;
                 }
-            } else if (isCapital(text.charAt(from))) {
-                while (end < text.length() && end < from + 3 && isDigit(text.charAt(end))) {
+            } else if (isCapital(draft.charAt(from))) {
+                while (end < draft.length() && end < from + 3 && isDigit(draft.charAt(end))) {
                     end++;
                 }
             }
@@ -770,24 +765,26 @@ public final class OfficeSheet {
                 fail();
                 return Part.ofNumber(0);
             }
-            switch (charAtHand()) {
-                case '-':
-                    goOn();
-                    return new Part(PartKind.NEGATIVE, null, readFactor(depth + 1));
-                case '(':
-                    goOn();
-                    Part part = readExpression(depth + 1);
-                    pass(')');
-                    return part;
-                case 's':
-                    return readBlock(PartKind.SUM);
-                case 'n':
-                    return readBlock(PartKind.COUNT);
-                case 'm':
-                    return readBlock(PartKind.MOST);
-                default:
-                    return isCapital(charAtHand()) ? readReference() : readNumber();
+            if (isAt('-')) {
+                goOn();
+                return new Part(PartKind.NEGATIVE, null, readFactor(depth + 1));
             }
+            if (isAt('(')) {
+                goOn();
+                Part part = readExpression(depth + 1);
+                pass(')');
+                return part;
+            }
+            if (isAt('s')) {
+                return readBlock(PartKind.SUM);
+            }
+            if (isAt('n')) {
+                return readBlock(PartKind.COUNT);
+            }
+            if (isAt('m')) {
+                return readBlock(PartKind.MOST);
+            }
+            return isCapital(charAtHand()) ? readReference() : readNumber();
         }
 
         private Part readBlock(PartKind kind) {
@@ -815,10 +812,10 @@ public final class OfficeSheet {
         private int rowAtHand() {
             int number = 0;
             for (int k = starts[token] + 1; k < starts[token + 1]; k++) {
-                if (number == 0 && text.charAt(k) == '0') {
+                if (number == 0 && draft.charAt(k) == '0') {
                     return NONE;
                 }
-                number = number * 10 + (text.charAt(k) - '0');
+                number = number * 10 + (draft.charAt(k) - '0');
             }
             return number - 1;
         }
@@ -840,10 +837,10 @@ public final class OfficeSheet {
             int points = 0;
             long number = 0;
             for (int k = starts[token]; k < starts[token + 1]; k++) {
-                if (text.charAt(k) == '.') {
+                if (draft.charAt(k) == '.') {
                     points++;
                 } else {
-                    number = number * 10 + (text.charAt(k) - '0');
+                    number = number * 10 + (draft.charAt(k) - '0');
                     before += points == 0 ? 1 : 0;
                     behind += points == 0 ? 0 : 1;
                 }
@@ -885,7 +882,7 @@ public final class OfficeSheet {
 
         /** The first character of the token at hand; one that no text has behind the last token. */
         private char charAtHand() {
-            return token < tokens ? text.charAt(starts[token]) : 0;
+            return token < tokens ? draft.charAt(starts[token]) : 0;
         }
 
         private static boolean isDigit(char c) {
@@ -1098,7 +1095,7 @@ public final class OfficeSheet {
         }
     }
 
-    /** Writes contents as texts, with the names that lines have now. */
+    /** Writes contents into OUT, which is its text, with the names that lines have now. */
     private static final class Writer {
         private final StringBuilder text = new StringBuilder();
         private Axis rows;

@@ -1,5 +1,3 @@
-import java.util.function.IntSupplier;
-
 /** Compares answers with those that are due, and drives a sheet in fewer words. */
 final class Check {
     private static int wrong = 0;
@@ -12,7 +10,7 @@ final class Check {
         checks++;
         if (got != want) {
             wrong++;
-            System.out.println(what + " answered " + got + ", due is " + want);
+            System.out.println(what + ": got " + got + ", due is " + want);
         }
     }
 
@@ -20,31 +18,31 @@ final class Check {
         checks++;
         if (!got.equals(want)) {
             wrong++;
-            System.out.println(what + " answered " + got + ", due is " + want);
+            System.out.println(what + ": got " + got + ", due is " + want);
         }
     }
 
     /** The very class counts, not one above it: ArrayIndexOutOfBoundsException would be a fault. */
-    static void throwing(String what, Class<? extends RuntimeException> want, IntSupplier call) {
+    static void throwing(String what, Class<? extends RuntimeException> want, Runnable call) {
         String got;
         try {
-            got = "answered " + call.getAsInt();
+            call.run();
+            got = "nothing";
         } catch (RuntimeException e) {
             got = e.getClass().getSimpleName();
         }
-        due(what, got, want.getSimpleName());
+        due(what + " throws", got, want.getSimpleName());
     }
 
-
-    static void argument(String what, IntSupplier call) {
+    static void argument(String what, Runnable call) {
         throwing(what, IllegalArgumentException.class, call);
     }
 
-    static void index(String what, IntSupplier call) {
+    static void index(String what, Runnable call) {
         throwing(what, IndexOutOfBoundsException.class, call);
     }
 
-    static void state(String what, IntSupplier call) {
+    static void state(String what, Runnable call) {
         throwing(what, IllegalStateException.class, call);
     }
 

@@ -24,10 +24,7 @@ public final class DraftTest {
             Check.index("new value", () -> sheet.value(here, 0, 0));
         }
         Check.index("new out", () -> sheet.out(0));
-        Check.argument("new draft has none to keep", () -> {
-            sheet.cut(1);
-            return 0;
-        });
+        Check.argument("new draft has none to keep", () -> sheet.cut(1));
         Check.due("first character", sheet.type('x'), 1);
     }
 
@@ -72,10 +69,7 @@ public final class DraftTest {
         sheet.type('2');
         int[] refused = {-1, 3, 20, 21, Integer.MIN_VALUE, Integer.MAX_VALUE};
         for (int n : refused) {
-            Check.argument("cut " + n, () -> {
-                sheet.cut(n);
-                return 0;
-            });
+            Check.argument("cut " + n, () -> sheet.cut(n));
         }
         Check.due("refused cuts change nothing", sheet.type('3'), 3);
     }
