@@ -221,7 +221,8 @@ public final class OfficeSheet {
         Office here = officeOf(office);
         lineShown(here.axes[ROW], row);
         lineShown(here.axes[COLUMN], column);
-        return calculator.resultOf(here, row, column);
+        calculator.calculate(here);
+        return calculator.resultAt(row, column);
     }
 
     /** Where an act, or the line that it made, stands in an array of all of them. */
@@ -588,7 +589,7 @@ public final class OfficeSheet {
             return act == null ? null : act.content;
         }
 
-        /** The write that counts has the greatest stamp, so it is never in another one's past itself. */
+        /** How many taken writes of a cell, besides the one that counts, no other taken one knew. */
         int countRivals(Line row, Line column) {
             int count = 0;
             Act counting = writeThatCounts(row, column);
@@ -857,7 +858,7 @@ public final class OfficeSheet {
         }
 
         private void pass(char c) {
-            if (isAt(c)) {
+            if (charAtHand() == c) {
                 goOn();
             } else {
                 fail();
@@ -913,10 +914,28 @@ public final class OfficeSheet {
         // Whether the formula at hand has read a cell that is not settled.
         private boolean early = false;
 
-        /** The result of the cell in a row and a column that the office shows. */
-        long resultOf(Office office, int row, int column) {
+        /**
+         * A cell is settled when all that it reads are. Those that stay read, by whatever cells, one that
+         * reads itself: each of them reads another one that stays, which can only go on in a ring.
+         */
+        void calculate(Office office) {
             layOut(office);
-            settleAll();
+            boolean goesOn = true;
+            for (int pass = 0; pass < cells && goesOn; pass++) {
+                goesOn = false;
+                for (int i = 0; i < cells; i++) {
+                    if (!settled[i]) {
+                        early = false;
+                        results[i] = evaluate(contents[i], 0);
+                        settled[i] = !early;
+                        goesOn = goesOn || !early;
+                    }
+                }
+            }
+        }
+
+        /** The result of a cell whose row and column the office shows that was calculated last. */
+        long resultAt(int row, int column) {
             int cell = row * width + column;
             return settled[cell] ? results[cell] : ofError(READS_ITSELF);
         }
@@ -950,25 +969,6 @@ public final class OfficeSheet {
                 if (row != NONE && column != NONE && write.content != null) {
                     contents[row * width + column] = write.content;
                     settled[row * width + column] = false;
-                }
-            }
-        }
-
-        /**
-         * A cell is settled when all that it reads are. Those that stay read, by whatever cells, one that
-         * reads itself: each of them reads another one that stays, which can only go on in a ring.
-         */
-        private void settleAll() {
-            boolean goesOn = true;
-            for (int pass = 0; pass < cells && goesOn; pass++) {
-                goesOn = false;
-                for (int i = 0; i < cells; i++) {
-                    if (!settled[i]) {
-                        early = false;
-                        results[i] = evaluate(contents[i], 0);
-                        settled[i] = !early;
-                        goesOn = goesOn || !early;
-                    }
                 }
             }
         }

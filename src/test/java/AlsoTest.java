@@ -8,6 +8,7 @@ public final class AlsoTest {
         aPastThatIsNotTheCountingOnes();
         anOvertakenRow();
         waitingWritesAreNotTaken();
+        waitingWritesOvertakeNone();
         otherCells();
         undoIsAWrite();
         refuses();
@@ -93,6 +94,23 @@ public final class AlsoTest {
         Check.due("nothing beside", sheet.also(0, 0, 0), 0);
         sheet.deliver(0, 1, 1);
         Check.due("taken", sheet.also(0, 1, 0), 1);
+    }
+
+    private static void waitingWritesOvertakeNone() {
+        OfficeSheet sheet = Check.sheet(1, 1);
+        Check.meet(sheet);
+        Check.enter(sheet, 0, 0, 0, "1");
+        Check.enter(sheet, 1, 0, 0, "2");
+        Check.deliverAll(sheet, 2, 0);
+        Check.deliverAll(sheet, 2, 1);
+        sheet.put(0, 0, 0);
+        Check.enter(sheet, 0, 0, 0, "3");
+        Check.due("waits", sheet.deliver(2, 0, 5), 2);
+        Check.due("office 0's first is still beside", sheet.also(2, 0, 0), 1);
+        Check.due("office 1's counts", sheet.value(2, 0, 0), 20000);
+        sheet.deliver(2, 0, 4);
+        Check.due("office 1's is beside now", sheet.also(2, 0, 0), 1);
+        Check.due("office 0's second counts", sheet.value(2, 0, 0), 30000);
     }
 
     private static void otherCells() {

@@ -100,7 +100,7 @@ public final class EnterTest {
         fault(sheet, "999999", 0);
         fault(sheet, "99999999999999999999", 0);
         fault(sheet, "18446744073709551617", 0);
-        fault(sheet, "1.8446744073709551617".substring(0, 20), 0);
+        fault(sheet, "1.844674407370955161", 0);
     }
 
     private static void formulaFaults() {
@@ -128,7 +128,7 @@ public final class EnterTest {
         fault(sheet, "=x", 1);
         fault(sheet, "=1x", 2);
         fault(sheet, "=#", 1);
-        fault(sheet, "=((((((((((((((((((((".substring(0, 20), 20);
+        fault(sheet, "=(((((((((((((((((((", 20);
         fault(sheet, "=-------------------", 20);
         fault(sheet, "=-(-(-(-(-(-(-(-(-(-", 20);
     }

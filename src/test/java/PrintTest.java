@@ -188,7 +188,6 @@ public final class PrintTest {
         for (int i = 0; i < 9; i++) {
             sheet.put(1, ROW, NONE);
         }
-        Check.enter(sheet, 0, 0, 0, "=s(A1:A9)-A2-A3-A4-A");
         Check.enter(sheet, 0, 0, 0, "=s(A1:A9)-A2-A3-A4");
         Check.deliverAll(sheet, 0, 1);
         Check.due("rows", sheet.lines(0, ROW), 18);
