@@ -11,6 +11,9 @@ public final class AlsoTest {
         waitingWritesOvertakeNone();
         otherCells();
         undoIsAWrite();
+        besidesTheOneThatCounts();
+        writesOfNothing();
+        goneAndThereAgain();
         refuses();
         Check.end();
     }
@@ -135,6 +138,53 @@ public final class AlsoTest {
         sheet.undo(2);
         Check.due("the undo knew both", sheet.also(2, 0, 0), 0);
         Check.due("and nothing is held", sheet.print(2, 0, 0), 0);
+    }
+
+    /** "besides the one that counts" */
+    private static void besidesTheOneThatCounts() {
+        OfficeSheet sheet = Check.sheet(1, 1);
+        Check.meet(sheet);
+        Check.enter(sheet, 0, 0, 0, "1");
+        Check.due("one write, which counts", sheet.also(0, 0, 0), 0);
+        Check.enter(sheet, 1, 0, 0, "2");
+        Check.enter(sheet, 2, 0, 0, "3");
+        sheet.deliver(0, 2, 1);
+        Check.due("two writes, one counts", sheet.also(0, 0, 0), 1);
+        sheet.deliver(0, 1, 1);
+        Check.due("three writes, one counts", sheet.also(0, 0, 0), 2);
+        Check.enter(sheet, 0, 0, 0, "4");
+        Check.due("one after all of them", sheet.also(0, 0, 0), 0);
+        Check.due("elsewhere nothing came", sheet.also(1, 0, 0), 0);
+        sheet.deliver(1, 0, 3);
+        Check.due("one beside", sheet.also(1, 0, 0), 1);
+        Check.due("the last waits for another one's", sheet.deliver(1, 0, 4), 2);
+        Check.due("one beside still", sheet.also(1, 0, 0), 1);
+        sheet.deliver(1, 2, 1);
+        Check.due("all came", sheet.also(1, 0, 0), 0);
+    }
+
+    /** "How many writes of a cell": also of nothing */
+    private static void writesOfNothing() {
+        OfficeSheet sheet = Check.sheet(1, 1);
+        Check.meet(sheet);
+        Check.enter(sheet, 0, 0, 0, "");
+        Check.enter(sheet, 1, 0, 0, "");
+        Check.meet(sheet);
+        Check.due("one beside", sheet.also(2, 0, 0), 1);
+        Check.due("a fault", Check.enter(sheet, 0, 0, 0, "="), 1);
+        Check.due("is no write", sheet.also(0, 0, 0), 1);
+    }
+
+    private static void goneAndThereAgain() {
+        OfficeSheet sheet = Check.sheet(1, 1);
+        Check.meet(sheet);
+        Check.enter(sheet, 0, 0, 0, "1");
+        Check.enter(sheet, 1, 0, 0, "2");
+        Check.meet(sheet);
+        sheet.remove(0, 0, 0);
+        Check.index("no such row", () -> sheet.also(0, 0, 0));
+        sheet.undo(0);
+        Check.due("the writes are of the row", sheet.also(0, 0, 0), 1);
     }
 
     private static void refuses() {

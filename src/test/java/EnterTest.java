@@ -61,9 +61,7 @@ public final class EnterTest {
     }
 
     private static void fault(OfficeSheet sheet, String text, int at) {
-        int acts = sheet.known(0, 0);
-        Check.due("fault of " + text, Check.enter(sheet, 0, 0, 0, text), at);
-        Check.due("no act for " + text, sheet.known(0, 0), acts);
+        Check.fault(sheet, text, at);
     }
 
     private static void numberFaults() {

@@ -138,38 +138,8 @@ public final class PrintTest {
         Check.due("another row in its stead", Check.printed(sheet, 0, 0, 0), "=#-C1*B2");
     }
 
-    /**
-     * Office 0 removes its five columns and puts five others, again and again, while office 1, which knows
-     * no removal of them yet, removes the same ones and takes that back, later by stamp: so they are there.
-     * The rows are for the stamps: thanks to them office 0's columns come before office 1's own.
-     */
-    private static OfficeSheet thirtyColumns() {
-        OfficeSheet sheet = new OfficeSheet();
-        for (int i = 0; i < 5; i++) {
-            sheet.put(1, COLUMN, NONE);
-            sheet.put(2, COLUMN, NONE);
-        }
-        for (int i = 0; i < 5; i++) {
-            sheet.put(0, ROW, NONE);
-        }
-        for (int turn = 0; turn < 4; turn++) {
-            for (int i = 0; i < 5; i++) {
-                sheet.put(0, COLUMN, NONE);
-            }
-            Check.deliverAll(sheet, 1, 0);
-            for (int i = 0; i < 5 && turn < 3; i++) {
-                sheet.remove(0, COLUMN, 0);
-                sheet.remove(1, COLUMN, i);
-                sheet.undo(1);
-            }
-        }
-        Check.deliverAll(sheet, 2, 0);
-        Check.deliverAll(sheet, 2, 1);
-        return sheet;
-    }
-
     private static void columnsBehindTheLastLetter() {
-        OfficeSheet sheet = thirtyColumns();
+        OfficeSheet sheet = Check.thirtyColumns();
         Check.due("columns", sheet.lines(2, COLUMN), 30);
         Check.enter(sheet, 2, 0, 25, "3");
         Check.due("the 26th", Check.enter(sheet, 2, 0, 0, "=Z1+s(Z1:B1)"), NONE);

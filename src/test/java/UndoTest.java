@@ -15,6 +15,12 @@ public final class UndoTest {
         putCountsByItsBeingThere();
         countsAsTheOfficeHasIt();
         goesToOthers();
+        eachKindOfActByItsOwn();
+        backToThePlaceOfWhenTheActWasMade();
+        backWhenOthersMovedSince();
+        linesThatAreGoneCountToo();
+        whatSpokeLatestOnceMoreDoesNotCount();
+        falseAgainAndAgain();
         refuses();
         Check.end();
     }
@@ -177,6 +183,113 @@ public final class UndoTest {
         Check.due("acts taken", sheet.known(2, 0), 10);
         Check.due("back", Check.shown(sheet, 2, ROW), "1 2 3");
         Check.due("nothing", sheet.value(2, 0, 0), 0);
+    }
+
+    /** "GONE for PUT; BACK .. for MOVE and BACK; THERE for GONE, GONE for THERE; WRITE .. for WRITE" */
+    private static void eachKindOfActByItsOwn() {
+        OfficeSheet sheet = Check.sheet(2, 1);
+        sheet.move(0, ROW, 0, 1);
+        Check.due("MOVE", Check.shown(sheet, 0, ROW), "2 1");
+        undo(sheet, 0, true);
+        Check.due("BACK for MOVE", Check.shown(sheet, 0, ROW), "1 2");
+        undo(sheet, 0, true);
+        Check.due("BACK for BACK", Check.shown(sheet, 0, ROW), "2 1");
+        sheet.remove(0, ROW, 0);
+        Check.due("GONE", Check.shown(sheet, 0, ROW), "1");
+        undo(sheet, 0, true);
+        Check.due("THERE for GONE", Check.shown(sheet, 0, ROW), "2 1");
+        undo(sheet, 0, true);
+        Check.due("GONE for THERE", Check.shown(sheet, 0, ROW), "1");
+        Check.enter(sheet, 0, 0, 0, "5");
+        Check.enter(sheet, 0, 0, 0, "6");
+        undo(sheet, 0, true);
+        Check.holds(sheet, "A1", "5");
+        undo(sheet, 0, true);
+        Check.holds(sheet, "A1", "6");
+        sheet.put(0, COLUMN, 0);
+        undo(sheet, 0, true);
+        Check.due("GONE for PUT", Check.shown(sheet, 0, COLUMN), "3");
+    }
+
+    /** "(before: when the act was made)": a move that came since, with a lesser stamp, is not it */
+    private static void backToThePlaceOfWhenTheActWasMade() {
+        OfficeSheet sheet = Check.sheet(3, 0);
+        Check.meet(sheet);
+        sheet.move(2, ROW, 0, 2);
+        sheet.move(1, ROW, 0, 1);
+        Check.deliverAll(sheet, 2, 1);
+        Check.due("office 2's counts", Check.shown(sheet, 2, ROW), "2 3 1");
+        undo(sheet, 2, true);
+        Check.due("to the place of then", Check.shown(sheet, 2, ROW), "1 2 3");
+        undo(sheet, 2, true);
+        Check.due("and back", Check.shown(sheet, 2, ROW), "2 3 1");
+    }
+
+    /** "BACK to the place before": which is the place itself, wherever it stands by now */
+    private static void backWhenOthersMovedSince() {
+        OfficeSheet sheet = Check.sheet(3, 0);
+        Check.meet(sheet);
+        sheet.move(0, ROW, 2, NONE);
+        Check.meet(sheet);
+        sheet.move(1, ROW, 2, NONE);
+        sheet.put(1, ROW, 2);
+        Check.meet(sheet);
+        Check.due("rows", Check.shown(sheet, 0, ROW), "2 3 1 102");
+        undo(sheet, 0, true);
+        Check.due("its place is after the old place of 2, which is after that of 1", Check.shown(sheet, 0, ROW), "2 1 102 3");
+    }
+
+    /** "if what it says still counts there (it spoke latest of the place ..)": whether the line is there or not */
+    private static void linesThatAreGoneCountToo() {
+        OfficeSheet sheet = Check.sheet(3, 1);
+        Check.meet(sheet);
+        sheet.move(0, ROW, 0, 2);
+        Check.meet(sheet);
+        sheet.remove(1, ROW, 2);
+        Check.enter(sheet, 2, 2, 0, "5");
+        Check.meet(sheet);
+        Check.due("gone", Check.shown(sheet, 0, ROW), "2 3");
+        undo(sheet, 0, true);
+        undo(sheet, 2, true);
+        Check.meet(sheet);
+        undo(sheet, 1, true);
+        Check.due("there, at the place before", Check.shown(sheet, 1, ROW), "1 2 3");
+        Check.due("with what it held before", sheet.print(1, 0, 0), 0);
+    }
+
+    /** "(it spoke latest ..)": an act after which another spoke does not count, even if that one took itself back */
+    private static void whatSpokeLatestOnceMoreDoesNotCount() {
+        OfficeSheet sheet = Check.sheet(2, 1);
+        Check.meet(sheet);
+        sheet.put(0, ROW, 1);
+        Check.meet(sheet);
+        sheet.remove(1, ROW, 2);
+        undo(sheet, 1, true);
+        Check.meet(sheet);
+        Check.due("there again", Check.shown(sheet, 0, ROW), "1 2 4");
+        undo(sheet, 0, false);
+        Check.enter(sheet, 0, 0, 0, "5");
+        Check.meet(sheet);
+        Check.enter(sheet, 1, 0, 0, "6");
+        undo(sheet, 1, true);
+        Check.meet(sheet);
+        Check.holds(sheet, "A1", "5");
+        undo(sheet, 0, false);
+        Check.holds(sheet, "A1", "5");
+    }
+
+    /** "Whether there was such an act." */
+    private static void falseAgainAndAgain() {
+        OfficeSheet sheet = Check.sheet(2, 0);
+        Check.meet(sheet);
+        sheet.remove(1, ROW, 1);
+        Check.meet(sheet);
+        for (int n = 0; n < 45; n++) {
+            undo(sheet, 0, false);
+        }
+        Check.due("nothing is changed", Check.shown(sheet, 0, ROW), "1");
+        Check.due("the next act has the next number", sheet.put(0, ROW, NONE), 3);
+        undo(sheet, 0, true);
     }
 
     private static void refuses() {
