@@ -12,6 +12,7 @@ public final class AlsoTest {
         otherCells();
         undoIsAWrite();
         besidesTheOneThatCounts();
+        firstActsAreWritesToo();
         writesOfNothing();
         goneAndThereAgain();
         refuses();
@@ -161,6 +162,32 @@ public final class AlsoTest {
         Check.due("one beside still", sheet.also(1, 0, 0), 1);
         sheet.deliver(1, 2, 1);
         Check.due("all came", sheet.also(1, 0, 0), 0);
+    }
+
+    /** "How many writes of a cell": also those that are the first acts of their makers */
+    private static void firstActsAreWritesToo() {
+        for (int maker = 0; maker < 3; maker++) {
+            int other = (maker + 1) % 3;
+            int third = (maker + 2) % 3;
+            OfficeSheet sheet = new OfficeSheet();
+            sheet.put(other, 0, NONE);
+            sheet.put(other, 1, NONE);
+            Check.meet(sheet);
+            Check.enter(sheet, maker, 0, 0, "1");
+            Check.enter(sheet, other, 0, 0, "2");
+            Check.enter(sheet, other, 0, 0, "3");
+            Check.meet(sheet);
+            Check.due("the first of office " + maker + " is beside", sheet.also(third, 0, 0), 1);
+            OfficeSheet later = new OfficeSheet();
+            later.put(other, 0, NONE);
+            later.put(other, 1, NONE);
+            Check.enter(later, other, 0, 0, "1");
+            Check.meet(later);
+            Check.enter(later, third, 0, 0, "2");
+            Check.enter(later, maker, 0, 0, "3");
+            Check.meet(later);
+            Check.due("it overtakes another", later.also(third, 0, 0), 1);
+        }
     }
 
     /** "How many writes of a cell": also of nothing */

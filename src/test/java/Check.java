@@ -76,7 +76,8 @@ final class Check {
 
     static String shown(OfficeSheet sheet, int office, int kind) {
         StringBuilder text = new StringBuilder();
-        for (int i = 0; i < sheet.lines(office, kind); i++) {
+        int lines = sheet.lines(office, kind);
+        for (int i = 0; i < lines; i++) {
             text.append(i == 0 ? "" : " ").append(sheet.line(office, kind, i));
         }
         return text.toString();

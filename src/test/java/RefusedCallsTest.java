@@ -77,9 +77,10 @@ public final class RefusedCallsTest {
         return sheet;
     }
 
-    /** Office 0 shows as many lines as it may put, and the draft is full. */
+    /** All offices show as many lines as they may put, and the draft is full. */
     private static OfficeSheet full() {
         OfficeSheet sheet = Check.sheet(9, 5);
+        Check.meet(sheet);
         Check.draft(sheet, "=11111+11111+11111+1");
         return sheet;
     }
@@ -169,6 +170,8 @@ public final class RefusedCallsTest {
         refused("type of none", ARGUMENT, sheet -> sheet.type((char) 31));
         refused("put a row", STATE, sheet -> sheet.put(0, ROW, NONE));
         refused("put a column", STATE, sheet -> sheet.put(0, COLUMN, NONE));
+        refused("put a row elsewhere", STATE, sheet -> sheet.put(2, ROW, NONE));
+        refused("put a column elsewhere", STATE, sheet -> sheet.put(1, COLUMN, NONE));
         refused("put a row behind none", INDEX, sheet -> sheet.put(0, ROW, 9));
         refused("put a column behind none", INDEX, sheet -> sheet.put(0, COLUMN, 5));
         refused("put of none behind none", ARGUMENT, sheet -> sheet.put(0, 2, 9));
@@ -207,7 +210,6 @@ public final class RefusedCallsTest {
         tellCells(sheet, text);
         tellDraft(sheet, text);
         goOn(sheet, text);
-        tellOffices(sheet, text);
         return text.toString();
     }
 
@@ -261,23 +263,29 @@ public final class RefusedCallsTest {
         tellOut(sheet, text);
     }
 
-    /** The order of the rows that come now tells the stamps, and what is undone the latest acts. */
+    /** The order of the rows that come or go now tells the stamps, and what is undone the latest acts. */
     private static void goOn(OfficeSheet sheet, StringBuilder text) {
-        for (int office = 0; office < 3; office++) {
-            int here = office;
-            for (int n = 0; n < 3; n++) {
-                tell(text, () -> sheet.put(here, ROW, NONE));
-            }
+        for (int n = 0; n < 6; n++) {
+            int here = n / 2;
+            tell(text, () -> sheet.put(here, ROW, NONE));
+        }
+        Check.meet(sheet);
+        text.append(Check.shown(sheet, 1, ROW)).append('\n');
+        // Of nine rows each office takes two others to the beginning.
+        for (int n = 0; n < 6; n++) {
+            int here = n / 2;
             tell(text, () -> {
-                sheet.move(here, COLUMN, 0, NONE);
+                sheet.move(here, ROW, sheet.lines(here, ROW) - 1 - 3 * here, NONE);
                 return 0;
             });
-            tell(text, () -> sheet.undo(here) ? 1 : 0);
         }
+        Check.meet(sheet);
+        text.append(Check.shown(sheet, 1, ROW)).append('\n');
         for (int office = 0; office < 3; office++) {
             int here = office;
             tell(text, () -> sheet.undo(here) ? 1 : 0);
         }
         Check.meet(sheet);
+        text.append(Check.shown(sheet, 2, ROW)).append(" / ").append(Check.shown(sheet, 2, COLUMN));
     }
 }

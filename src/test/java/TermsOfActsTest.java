@@ -16,6 +16,7 @@ public final class TermsOfActsTest {
         noOtherKinds();
         numberedFromOneOn();
         noNumberForWhatIsNoAct();
+        noStampForWhatIsNoAct();
         fortyPutsAndRemoves();
         fortyMoves();
         fortyEntries();
@@ -25,10 +26,12 @@ public final class TermsOfActsTest {
         takenOnce();
         takenWhenThePastIsThere();
         waitsForAllOfThePast();
+        firstActsMayWait();
         waitingIsNotTaken();
         takenAsSoonAsThePastIsThere();
         againAndAgain();
         oneMoreThanTheGreatestTaken();
+        theGreatestTakenIsNotOneThatWaits();
         theGreatestIsNotHowMany();
         allActsHaveStamps();
         byNumberThenByMaker();
@@ -131,6 +134,18 @@ public final class TermsOfActsTest {
         Check.due("takes no number either", sheet.put(0, ROW, NONE), 5);
     }
 
+    /** "there is no act", and so no stamp */
+    private static void noStampForWhatIsNoAct() {
+        OfficeSheet sheet = Check.sheet(1, 1);
+        Check.meet(sheet);
+        Check.due("a fault", Check.enter(sheet, 0, 0, 0, "=1+"), 3);
+        Check.due("again", sheet.enter(0, 0, 0), 3);
+        sheet.put(0, ROW, NONE);
+        sheet.put(1, ROW, NONE);
+        Check.meet(sheet);
+        Check.due("equal numbers", Check.shown(sheet, 0, ROW), "101 3 1");
+    }
+
     /** The office has so many acts, of which the last is made by a call that is still refused one later. */
     private static void lastActs(OfficeSheet sheet, int office, String what, IntConsumer act) {
         while (sheet.known(office, office) < MOST - 1) {
@@ -178,6 +193,8 @@ public final class TermsOfActsTest {
         Check.due("the 40th counts", sheet.value(0, 0, 0), 390000);
         Check.draft(sheet, "");
         Check.state("nothing is an entry too", () -> sheet.enter(0, 0, 0));
+        Check.draft(sheet, "=(");
+        Check.state("its fault is not told", () -> sheet.enter(0, 0, 0));
     }
 
     /** "(at most 40)", for undo() */
@@ -270,6 +287,24 @@ public final class TermsOfActsTest {
         Check.due("is all there", sheet.known(1, 2), 1);
     }
 
+    /** "an act that came before its past WAITS": also the first one that its maker made */
+    private static void firstActsMayWait() {
+        for (int maker = 0; maker < 3; maker++) {
+            int before = (maker + 1) % 3;
+            int to = (maker + 2) % 3;
+            OfficeSheet sheet = new OfficeSheet();
+            sheet.put(before, ROW, NONE);
+            sheet.deliver(maker, before, 1);
+            sheet.put(maker, ROW, 0);
+            Check.due("the first of office " + maker, sheet.deliver(to, maker, 1), 2);
+            Check.due("waits", sheet.waiting(to), 1);
+            Check.due("not where its past is", sheet.deliver(before, maker, 1), 1);
+            Check.due("its past", sheet.deliver(to, before, 1), 1);
+            Check.due("none waits", sheet.waiting(to), 0);
+            Check.due("it is taken", sheet.known(to, maker), 1);
+        }
+    }
+
     /** "an act that came before its past WAITS": nothing of it is seen */
     private static void waitingIsNotTaken() {
         OfficeSheet sheet = Check.sheet(1, 1);
@@ -332,6 +367,17 @@ public final class TermsOfActsTest {
         Check.deliverAll(sheet, 2, 0);
         Check.deliverAll(sheet, 2, 1);
         Check.due("a 6 stands between a 6 and a 5", Check.shown(sheet, 2, ROW), "206 101 205 204 203 202 201");
+    }
+
+    /** "the greatest of all acts that its maker had taken" */
+    private static void theGreatestTakenIsNotOneThatWaits() {
+        OfficeSheet sheet = Check.sheet(0, 5);
+        Check.due("a 5 waits", sheet.deliver(1, 0, 5), 2);
+        sheet.put(1, ROW, NONE);
+        sheet.put(2, ROW, NONE);
+        sheet.put(2, ROW, NONE);
+        Check.meet(sheet);
+        Check.due("a 1 stands behind a 1 and a 2", Check.shown(sheet, 1, ROW), "202 201 101");
     }
 
     /** "1 more than the greatest of all acts": not than how many there are */

@@ -275,6 +275,7 @@ public final class TermsOfTextsTest {
         Check.due("Z is the 26th", Check.enter(wide, 2, 1, 0, "=Z1"), NONE);
         Check.due("its value", wide.value(2, 1, 0), 260000);
         Check.due("no letter is the 27th", Check.enter(wide, 2, 1, 0, "=[1"), 1);
+        Check.due("nor in a block", Check.enter(wide, 2, 1, 0, "=s([1:A1)"), 3);
         Check.due("nor are two letters", Check.enter(wide, 2, 1, 0, "=AA1"), 1);
     }
 
