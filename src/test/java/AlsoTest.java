@@ -181,12 +181,13 @@ public final class AlsoTest {
             OfficeSheet later = new OfficeSheet();
             later.put(other, 0, NONE);
             later.put(other, 1, NONE);
-            Check.enter(later, other, 0, 0, "1");
             Check.meet(later);
             Check.enter(later, third, 0, 0, "2");
+            Check.enter(later, other, 0, 0, "1");
+            Check.deliverAll(later, maker, other);
             Check.enter(later, maker, 0, 0, "3");
             Check.meet(later);
-            Check.due("it overtakes another", later.also(third, 0, 0), 1);
+            Check.due("it alone overtakes another", later.also(third, 0, 0), 1);
         }
     }
 
