@@ -16,8 +16,6 @@ public final class OfficeSheet {
     private static final int COLUMN = 1;
     private static final int FULL_OF_ROWS = 9;
     private static final int FULL_OF_COLUMNS = 5;
-    // Each line takes an act, and so many cells are there when half of all acts made rows.
-    private static final int ALL_CELLS = (ALL_ACTS / 2) * (ALL_ACTS / 2);
 
     private static final int TEXT_LENGTH = 20;
     private static final char FIRST_CHARACTER = 32;
@@ -219,10 +217,10 @@ public final class OfficeSheet {
 
     private long resultShown(int office, int row, int column) {
         Office here = officeOf(office);
-        lineShown(here.axes[ROW], row);
-        lineShown(here.axes[COLUMN], column);
+        Line inRow = lineShown(here.axes[ROW], row);
+        Line inColumn = lineShown(here.axes[COLUMN], column);
         calculator.calculate(here);
-        return calculator.resultAt(row, column);
+        return calculator.resultOf(inRow, inColumn);
     }
 
     /** Where an act, or the line that it made, stands in an array of all of them. */
@@ -343,6 +341,14 @@ public final class OfficeSheet {
         /** As which number a line is shown, or NONE. */
         int positionOf(Line line) {
             return line == null ? NONE : shownAs[line.index];
+        }
+
+        /** Whether a line that is shown stands from one to the other, whichever comes first. */
+        boolean standsWithin(Line line, Line from, Line to) {
+            int i = positionOf(from);
+            int j = positionOf(to);
+            int position = positionOf(line);
+            return position >= Math.min(i, j) && position <= Math.max(i, j);
         }
 
         Place placeOf(Line line) {
@@ -900,17 +906,17 @@ public final class OfficeSheet {
     }
 
     /**
-     * Calculates all shown cells of an office; its rows of cells are used again by each call. A result is
-     * a number, or an error, which is told as so much more than the greatest number.
+     * Calculates the cells of an office that are shown and hold something; its arrays are used again by each
+     * call. A result is a number, or an error, which is told as so much more than the greatest number.
      */
     private static final class Calculator {
-        private final Part[] contents = new Part[ALL_CELLS];
-        private final long[] results = new long[ALL_CELLS];
-        private final boolean[] settled = new boolean[ALL_CELLS];
+        // The writes that fill the cells, row by row; each cell takes an act, so there is room for all.
+        private final Act[] cells = new Act[ALL_ACTS];
+        private final long[] results = new long[ALL_ACTS];
+        private final boolean[] settled = new boolean[ALL_ACTS];
+        private int filled = 0;
         private Axis rows;
         private Axis columns;
-        private int width = 0;
-        private int cells = 0;
         // Whether the formula at hand has read a cell that is not settled.
         private boolean early = false;
 
@@ -921,12 +927,12 @@ public final class OfficeSheet {
         void calculate(Office office) {
             layOut(office);
             boolean goesOn = true;
-            for (int pass = 0; pass < cells && goesOn; pass++) {
+            for (int pass = 0; pass < filled && goesOn; pass++) {
                 goesOn = false;
-                for (int i = 0; i < cells; i++) {
+                for (int i = 0; i < filled; i++) {
                     if (!settled[i]) {
                         early = false;
-                        results[i] = evaluate(contents[i], 0);
+                        results[i] = evaluate(cells[i].content, 0);
                         settled[i] = !early;
                         goesOn = goesOn || !early;
                     }
@@ -934,9 +940,12 @@ public final class OfficeSheet {
             }
         }
 
-        /** The result of a cell whose row and column the office shows that was calculated last. */
-        long resultAt(int row, int column) {
-            int cell = row * width + column;
+        /** The result of a cell that the office shows that was calculated last. */
+        long resultOf(Line row, Line column) {
+            int cell = cellOf(row, column);
+            if (cell == NONE) {
+                return 0;
+            }
             return settled[cell] ? results[cell] : ofError(READS_ITSELF);
         }
 
@@ -955,22 +964,44 @@ public final class OfficeSheet {
         private void layOut(Office office) {
             rows = office.axes[ROW];
             columns = office.axes[COLUMN];
-            width = columns.count();
-            cells = rows.count() * width;
-            for (int i = 0; i < cells; i++) {
-                contents[i] = null;
-                results[i] = 0;
-                settled[i] = true;
-            }
+            filled = 0;
             for (int i = 0; i < office.writes.size(); i++) {
                 Act write = office.writes.get(i);
-                int row = rows.positionOf(write.row);
-                int column = columns.positionOf(write.column);
-                if (row != NONE && column != NONE && write.content != null) {
-                    contents[row * width + column] = write.content;
-                    settled[row * width + column] = false;
+                if (write.content != null && isShown(write.row, write.column)) {
+                    add(write);
                 }
             }
+        }
+
+        private void add(Act write) {
+            int at = filled;
+            while (at > 0 && standsBefore(write, cells[at - 1])) {
+                cells[at] = cells[at - 1];
+                at--;
+            }
+            cells[at] = write;
+            results[filled] = 0;
+            settled[filled] = false;
+            filled++;
+        }
+
+        private boolean standsBefore(Act write, Act other) {
+            int down = rows.positionOf(write.row) - rows.positionOf(other.row);
+            return down < 0 || down == 0 && columns.positionOf(write.column) < columns.positionOf(other.column);
+        }
+
+        private boolean isShown(Line row, Line column) {
+            return rows.positionOf(row) != NONE && columns.positionOf(column) != NONE;
+        }
+
+        /** Where the cells have this one; NONE if it holds nothing. */
+        private int cellOf(Line row, Line column) {
+            for (int i = 0; i < filled; i++) {
+                if (cells[i].writes(row, column)) {
+                    return i;
+                }
+            }
+            return NONE;
         }
 
         /** Goes through all parts, also when one has an error, because all that they read counts. */
@@ -1037,56 +1068,48 @@ public final class OfficeSheet {
         }
 
         private long ofReference(Part part) {
-            int row = rows.positionOf(part.row);
-            int column = columns.positionOf(part.column);
-            if (row == NONE || column == NONE) {
+            if (!isShown(part.row, part.column)) {
                 return ofError(LINE_NOT_SHOWN);
             }
-            return lookAt(row * width + column);
+            int cell = cellOf(part.row, part.column);
+            return cell == NONE ? 0 : lookAt(cell);
         }
 
+        /** Cells that hold nothing add nothing to a block, so it goes over the others alone. */
         private long ofBlock(Part part) {
-            int row = rows.positionOf(part.row);
-            int rowTo = rows.positionOf(part.rowTo);
-            int column = columns.positionOf(part.column);
-            int columnTo = columns.positionOf(part.columnTo);
-            if (row == NONE || rowTo == NONE || column == NONE || columnTo == NONE) {
+            if (!isShown(part.row, part.column) || !isShown(part.rowTo, part.columnTo)) {
                 return ofError(LINE_NOT_SHOWN);
             }
-            int first = Math.min(row, rowTo) * width + Math.min(column, columnTo);
-            return ofCells(part.kind, first, Math.abs(rowTo - row), Math.abs(columnTo - column));
-        }
-
-        /** Of the cells from the first one on, so many more rows down and columns to the right. */
-        private long ofCells(PartKind kind, int first, int down, int right) {
             long count = 0;
             long error = 0;
             long sum = 0;
             long most = 0;
-            for (int i = 0; i <= down; i++) {
-                for (int j = 0; j <= right; j++) {
-                    int cell = first + i * width + j;
-                    long result = lookAt(cell);
-                    if (contents[cell] == null) {
-                        continue;
-                    }
-                    count++;
-                    if (isError(result)) {
-                        error = error == 0 ? result : error;
-                    } else {
-                        sum = isError(sum) ? sum : ofNumber(sum + result);
-                        most = count == 1 ? result : Math.max(most, result);
-                    }
+            for (int i = 0; i < filled; i++) {
+                if (!isWithin(part, cells[i])) {
+                    continue;
+                }
+                long result = lookAt(i);
+                count++;
+                if (isError(result)) {
+                    error = error == 0 ? result : error;
+                } else {
+                    sum = isError(sum) ? sum : ofNumber(sum + result);
+                    most = count == 1 ? result : Math.max(most, result);
                 }
             }
-            if (kind == PartKind.COUNT) {
+            if (part.kind == PartKind.COUNT) {
                 return count * UNIT;
             }
             // An error of a cell goes before the sum's own, though that may have come earlier.
             if (error != 0) {
                 return error;
             }
-            return kind == PartKind.SUM ? sum : most;
+            return part.kind == PartKind.SUM ? sum : most;
+        }
+
+        private boolean isWithin(Part block, Act cell) {
+            return rows.standsWithin(cell.row, block.row, block.rowTo)
+                    && columns.standsWithin(cell.column, block.column, block.columnTo);
         }
 
         private long lookAt(int cell) {
