@@ -19,6 +19,11 @@ public final class TermsOfLinesTest {
         placeAndBeingThereAreApart();
         amongThoseThatTheOfficeHasTaken();
         shownFromZeroOn();
+        putMakesALineAndAPlace();
+        moveMakesAPlace();
+        backHasAnEarlierPlace();
+        thereOrGone();
+        contentsAreOfThreeKinds();
         cellsAreOfLines();
         latestWriteIsHeld();
         nothingIfThereWasNoWrite();
@@ -227,6 +232,79 @@ public final class TermsOfLinesTest {
         Check.index("there is one less", () -> sheet.line(0, ROW, 3));
         sheet.remove(0, ROW, 1);
         Check.due("no number is left out", Check.shown(sheet, 0, ROW), "2 4");
+    }
+
+    /** "PUT: makes a line of a kind and a place for it; it is there." */
+    private static void putMakesALineAndAPlace() {
+        OfficeSheet sheet = new OfficeSheet();
+        Check.due("a row", sheet.put(0, ROW, NONE), 1);
+        Check.due("of its kind", sheet.lines(0, ROW), 1);
+        Check.due("and no column", sheet.lines(0, COLUMN), 0);
+        Check.due("a column", sheet.put(0, COLUMN, NONE), 2);
+        Check.due("of its kind", sheet.line(0, COLUMN, 0), 2);
+        Check.due("and no row", sheet.lines(0, ROW), 1);
+        Check.due("its place is one to put behind", sheet.put(0, ROW, 0), 3);
+        Check.due("behind it", Check.shown(sheet, 0, ROW), "1 3");
+        sheet.remove(0, ROW, 1);
+        Check.due("a new line, not one that was there", sheet.put(0, ROW, 0), 5);
+        Check.due("there", Check.shown(sheet, 0, ROW), "1 5");
+    }
+
+    /** "MOVE: makes a place for a line.": a new one, whose stamp is the act's */
+    private static void moveMakesAPlace() {
+        OfficeSheet sheet = Check.filled(3, 1, "A3 7");
+        sheet.move(0, ROW, 2, 0);
+        Check.due("no new line", Check.shown(sheet, 0, ROW), "1 3 2");
+        Check.worth(sheet, "A2", 70000);
+        sheet.move(0, ROW, 2, 0);
+        Check.due("the latest place comes first", Check.shown(sheet, 0, ROW), "1 2 3");
+        sheet.put(0, ROW, 1);
+        sheet.move(0, ROW, 1, 2);
+        Check.due("what was put after the place that it left stays", Check.shown(sheet, 0, ROW), "1 8 2 3");
+    }
+
+    /** "BACK: a line has an earlier place of it.": with its own stamp, not the act's */
+    private static void backHasAnEarlierPlace() {
+        OfficeSheet sheet = new OfficeSheet();
+        sheet.put(0, ROW, NONE);
+        sheet.put(0, ROW, NONE);
+        sheet.move(0, ROW, 1, NONE);
+        Check.due("moved to the beginning", Check.shown(sheet, 0, ROW), "1 2");
+        sheet.undo(0);
+        Check.due("a new place after the beginning would come first", Check.shown(sheet, 0, ROW), "2 1");
+        sheet.undo(0);
+        Check.due("the place of the MOVE is an earlier one now", Check.shown(sheet, 0, ROW), "1 2");
+        Check.meet(sheet);
+        atAll(sheet, ROW, "the same", "1 2");
+    }
+
+    /** "THERE, GONE: a line is there, or not.": all else of it stays */
+    private static void thereOrGone() {
+        OfficeSheet sheet = Check.filled(3, 1, "A2 7");
+        sheet.remove(0, ROW, 1);
+        Check.due("GONE", Check.shown(sheet, 0, ROW), "1 3");
+        sheet.undo(0);
+        Check.due("THERE, at its place", Check.shown(sheet, 0, ROW), "1 2 3");
+        Check.worth(sheet, "A2", 70000);
+        sheet.undo(0);
+        Check.due("GONE", Check.shown(sheet, 0, ROW), "1 3");
+        Check.meet(sheet);
+        atAll(sheet, ROW, "gone", "1 3");
+    }
+
+    /** "a CONTENT: nothing, a number, or a formula" */
+    private static void contentsAreOfThreeKinds() {
+        OfficeSheet sheet = Check.filled(1, 2, "A1 7", "B1 =n(A1:A1)");
+        Check.holds(sheet, "A1", "7");
+        Check.fill(sheet, 0, "A1 =7");
+        Check.holds(sheet, "A1", "=7");
+        Check.worth(sheet, "B1", 10000);
+        Check.fill(sheet, 0, "A1 ");
+        Check.holds(sheet, "A1", "");
+        Check.worth(sheet, "B1", 0);
+        Check.fill(sheet, 0, "A1 0");
+        Check.holds(sheet, "A1", "0");
+        Check.worth(sheet, "B1", 10000);
     }
 
     /** "WRITE: a cell, which is a row and a column, has a CONTENT" */

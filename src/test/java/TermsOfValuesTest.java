@@ -7,6 +7,7 @@ public final class TermsOfValuesTest {
     public static void main(String[] args) {
         numbersHaveBounds();
         roundedIntoTheBounds();
+        eachKindOfFormula();
         nothingIsZero();
         aNumberIsItself();
         productsAreRounded();
@@ -77,6 +78,24 @@ public final class TermsOfValuesTest {
         worth("=22.3241*-4479.4639", -GREATEST);
         worth("=-1.5*66666.6667", -GREATEST);
         failing("=4.5887*-21792.6646", 4);
+    }
+
+    /** "FORMULAS: a number; a reference ..; the negative of one; + - * / of two; and SUM, COUNT, MOST .. of a block" */
+    private static void eachKindOfFormula() {
+        String[] cells = {"A1 7", "B1 -2", "A2 9", "B2 4"};
+        worth("=1.25", 12500, cells);
+        worth("=B1", -20000, cells);
+        worth("=-A1", -70000, cells);
+        worth("=-B1", 20000, cells);
+        worth("=-(A1-B1)", -90000, cells);
+        worth("=A1+B1", 50000, cells);
+        worth("=A1-B1", 90000, cells);
+        worth("=A1*B1", -140000, cells);
+        worth("=A1/B1", -35000, cells);
+        worth("=s(A1:B2)", 180000, cells);
+        worth("=n(A1:B2)", 40000, cells);
+        worth("=m(A1:B2)", 90000, cells);
+        worth("=m(B1:B1)", -20000, cells);
     }
 
     /** "a cell that holds nothing is 0" */
